@@ -35,6 +35,7 @@ public final class BoundsPromisesTest {
         salt();
         mode();
         drift();
+        driftBehindLinks();
         undo();
         write();
         tear();
@@ -185,6 +186,12 @@ public final class BoundsPromisesTest {
             """);
         test("`long holds(int v, int kind)`: What a NODE HOLDS by a KIND: 0, 1, 3 as told", MOST_LETTERS,
             "holds(0, 0) = 20; holds(1, 0) = 5; holds(8, 0) = 1; hear(0, 65535); holds(0, 0) = 36; holds(0, 3) = 65535");
+        test("`long holds(int v, int kind)`: What a NODE HOLDS by a KIND: 0, 1, 3 as told", MOST_LETTERS, """
+            # fewer letters than when last asked: none of those comes any more
+            hear(8, 2); holds(0, 0) = 20; holds(2, 3) = 3; mode(1); holds(0, 0) = 8; holds(1, 0) = 5; holds(2, 0) = 1
+            holds(2, 3) = 1; holds(4, 0) = 1; take(); holds(1, 0) = 4; holds(0, 0) = 7; link(0, 1); holds(1, 0) = 1
+            at(1, 0) = 3; holds(2, 0) = 5; holds(0, 0) = 7 # node 1 tells node 5 now
+            """);
         test("NONE: it has no RING. UNKNOWN, OUTSIDE.", """
             node(0, 65535); node(2, 1); holds(1|2, 0|1|2|3) = NONE; link(0, 2); holds(1, 0) = 16; holds(2, 0) = 17
             holds(-1|3|9|LOW|HIGH, 0|3) = UNKNOWN; holds(3, -1|4) = UNKNOWN
@@ -261,6 +268,11 @@ public final class BoundsPromisesTest {
             rows(8, 0) = 281474976710656; rows(8, 3) = 26348284331163648; rows(8, 7) = 5369380208640; rows(8, 8) = 84557168640
             rows(7, 7) = 10569646080; rows(7, 8) = 0; rows(6, 6) = 720 * 2097152; rows(6, 7) = 0
             """);
+        test("`long rows(int n, int z)`: ON THE WHOLE, of n ITEMS: how many rows have Z z.", """
+            # whatever was asked ahead
+            rows(8, 8) = 84557168640; rows(8, 0) = 281474976710656; rows(1, 1) = 64; rows(1, 0) = 64; rows(8, 7) = 5369380208640
+            rows(8, 0) = 281474976710656; rows(9, 9) = OUTSIDE; rows(2, 2) = 4096; rows(3, 0) = 262144
+            """);
         test("`long rows(int n, int z)`: ON THE WHOLE, of n ITEMS: how many rows have Z z.",
             ALL_LINKED, "salt(5); rows(1, 0) = 64; mode(1); rows(8, 8) = 84557168640; rows(1, 0) = 64 # whatever is so");
     }
@@ -309,6 +321,14 @@ public final class BoundsPromisesTest {
             8 * node(0, 0); link(0, 8) = 1; isLost(0, 8) = 0; at(0, 1) = 256; at(8, 1) = 1
             lose(8, 0) = 1; link(8, 0) = 0; at(0, 1) = 0; at(8, 1) = 0; told(2) = 0; link(8, 0) = 1; isLost(0, 8) = 0
             link(7, 8) = 1; link(8, 7) = 0; link(0, 8) = 0; told(1) = 0
+            """);
+        test("`int link(int u, int v)`: Two NODES are LINKED (not LOST), or, if they were, no more: 1, 0.", """
+            # a loss goes with its link, whichever node is named first; other losses stay
+            4 * node(1, 0); lose(0, 1|2|3|4); link(0, 2) = 0; link(3, 0) = 0; told(1) = 2; told(2) = 2
+            link(0, 2) = 1; link(0, 3) = 1; told(1) = 4; told(2) = 2
+            isLost(0, 2|3) = 0; isLost(2|3, 0) = 0; isLost(0, 1|4) = 1; isLost(1|4, 0) = 1
+            link(1, 2) = 1; lose(1, 2); link(1, 4) = 1; link(1, 4) = 0; isLost(1, 0|2) = 1; isLost(0|2, 1) = 1; isLost(4, 0) = 1
+            link(4, 1) = 1; link(4, 1) = 0; isLost(1, 0|2) = 1; isLost(0|2, 1) = 1; isLost(4, 0) = 1; isLost(0, 4) = 1
             """);
         test("or, if they were, no more: 1, 0. UNKNOWN (one twice).", LATTICE, """
             link(0, 0) = UNKNOWN; link(5, 5) = UNKNOWN; link(6, 6) = UNKNOWN
@@ -367,6 +387,14 @@ public final class BoundsPromisesTest {
             # what the MIDDLE alone hears is TRUE; what a node without a ring hears is not
             node(0, 0); drift(1) = 1; at(0, 3) = 4096; undo(1)
             seed(3); drift(1) = 0; at(1, 3) = 8; link(0, 1); told(7) = 1; seed(3); drift(1) = 0; at(1, 3) = 0
+            """);
+    }
+
+    private static void driftBehindLinks() {
+        test("`int drift(int n)`: n times BY DRAWS (1 .. 12): TRUE.", """
+            # by the links as they are now, not as they were when last asked
+            node(0, 65535); told(7) = 0; link(0, 1); drift(1) = 16; at(0, 3) = 4096
+            link(0, 1); seed(0); drift(1) = 0; at(0, 3) = 0
             """);
     }
 

@@ -19,7 +19,7 @@ final class Look {
         asked.addAll(Call.readAll("told(0|1|2|3|4|12|13)"));
         asked.addAll(Call.readAll("at(0|1|2|3|4|5|6|7|8, 1|3)"));
         for (int u = 0; u < 9; u++) {
-            for (int v = 0; v < u; v++) {
+            for (int v = 0; v < 9; v++) {
                 asked.add(new Call("isLost", u, v));
             }
         }
