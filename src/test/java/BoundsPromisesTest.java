@@ -2,17 +2,6 @@
 public final class BoundsPromisesTest {
     private static final Rows ROWS = new Rows("bounds of the promises");
 
-    /** 1, 2 in ring 1; 3, 4 in ring 2, each linked with both; 5 in ring 3, linked with both of these. */
-    private static final String LATTICE = "node(1, 1); node(1, 2); node(6, 4); node(6, 8); node(24, 16)\n";
-    /** Node v is linked with v less 1 alone, and hears item v less 1. */
-    private static final String CHAIN =
-        "node(1, 1); node(2, 2); node(4, 4); node(8, 8); node(16, 16); node(32, 32); node(64, 64); node(128, 128)\n";
-    /** All nine nodes linked with all. */
-    private static final String ALL_LINKED =
-        "node(1, 1); node(3, 1); node(7, 1); node(15, 1); node(31, 1); node(63, 1); node(127, 1); node(255, 1)\n";
-    /** Four in ring 1, four in ring 2, each linked with all four: as many letters as nine nodes can send. */
-    private static final String MOST_LETTERS = "4 * node(1, 1); 4 * node(30, 1)\n";
-
     public static void main(String[] args) {
         newObject();
         told();
@@ -75,7 +64,7 @@ public final class BoundsPromisesTest {
             told(0) = 1
             """);
         for (int i = 0; i < 2; i++) {
-            test("`TwiceHeard()`: The MIDDLE alone.", "told(0) = 1; told(10|12|13) = 0; goBack(0|1) = NOT", "\n", ALL_LINKED,
+            test("`TwiceHeard()`: The MIDDLE alone.", "told(0) = 1; told(10|12|13) = 0; goBack(0|1) = NOT", "\n", Nets.ALL_LINKED,
                 "seed(9); write(0, 1); keep(0); keep(1); salt(4)");
         }
     }
@@ -83,29 +72,29 @@ public final class BoundsPromisesTest {
     // ---- promise 2
 
     private static void told() {
-        test("13 THE SEED. OUTSIDE.", "told(-1|14|15|LOW|HIGH) = OUTSIDE\n", ALL_LINKED, "told(-1|14|LOW|HIGH) = OUTSIDE");
+        test("13 THE SEED. OUTSIDE.", "told(-1|14|15|LOW|HIGH) = OUTSIDE\n", Nets.ALL_LINKED, "told(-1|14|LOW|HIGH) = OUTSIDE");
         test("`int told(int what)`: 0 N", "told(0) = 1; 8 * node(0, 0); told(0) = 9; 8 * take(); told(0) = 1");
-        test("1 LINKS", "told(1) = 0\n", ALL_LINKED, "told(1) = 36; take(); told(1) = 28\n");
+        test("1 LINKS", "told(1) = 0\n", Nets.ALL_LINKED, "told(1) = 36; take(); told(1) = 28\n");
         test("1 LINKS", "8 * node(0, 0); told(1) = 0\n", eachTwo("link", true, " = 1"), "told(1) = 36\n",
             eachTwo("link", false, " = 0"), "told(1) = 0");
-        test("2 how many of them are LOST", "told(2) = 0\n", ALL_LINKED, "told(2) = 0\n", eachTwo("lose", true, " = 1"),
+        test("2 how many of them are LOST", "told(2) = 0\n", Nets.ALL_LINKED, "told(2) = 0\n", eachTwo("lose", true, " = 1"),
             "told(2) = 36; told(1) = 36\n", eachTwo("lose", false, " = 0"), "told(2) = 0; told(1) = 36");
-        test("2 how many of them are LOST", ALL_LINKED, eachTwo("lose", true, ""), "take(); told(2) = 28; link(0, 1); told(2) = 27");
+        test("2 how many of them are LOST", Nets.ALL_LINKED, eachTwo("lose", true, ""), "take(); told(2) = 28; link(0, 1); told(2) = 27");
         test("3 SALT", "told(3) = 0; salt(65535); told(3) = 65535; salt(0); told(3) = 0");
         test("4 MODE", "told(4) = 0; mode(1); told(4) = 1; mode(0); told(4) = 0");
     }
 
     private static void toldOfTelling() {
         test("5 the greatest RING", "told(5) = 0; node(0, 0); told(5) = 0; link(0, 1); told(5) = 1");
-        test("5 the greatest RING", CHAIN, "told(5) = 8; take(); told(5) = 7; link(0, 1); told(5) = 0");
+        test("5 the greatest RING", Nets.CHAIN, "told(5) = 8; take(); told(5) = 7; link(0, 1); told(5) = 0");
         test("6 COMES", "told(6) = 1; node(0, 0); told(6) = 1");
-        test("6 COMES", ALL_LINKED, "told(6) = 511\n", eachTwo("lose", true, ""), "told(6) = 1; lose(0, 8); told(6) = 257");
+        test("6 COMES", Nets.ALL_LINKED, "told(6) = 511\n", eachTwo("lose", true, ""), "told(6) = 1; lose(0, 8); told(6) = 257");
         test("7 TRUE", "told(7) = 0; hear(0, 65535); told(7) = 16; node(1, 65535); told(7) = 16; hear(0, 0); told(7) = 16");
         test("7 TRUE", "node(0, 65535); told(7) = 0; link(0, 1); told(7) = 16; lose(0, 1); told(7) = 16");
         test("8 LETTERS (by any KIND)", "told(8) = 0; node(0, 1); told(8) = 0; node(2, 1); told(8) = 0; link(0, 1); told(8) = 2");
-        test("8 LETTERS (by any KIND)", MOST_LETTERS, "told(8) = 20; mode(1); told(8) = 8; mode(0); told(8) = 20");
-        test("8 LETTERS (by any KIND)", ALL_LINKED, "told(8) = 8");
-        test("9 how many of these do not come", MOST_LETTERS, "told(9) = 0\n",
+        test("8 LETTERS (by any KIND)", Nets.MOST_LETTERS, "told(8) = 20; mode(1); told(8) = 8; mode(0); told(8) = 20");
+        test("8 LETTERS (by any KIND)", Nets.ALL_LINKED, "told(8) = 8");
+        test("9 how many of these do not come", Nets.MOST_LETTERS, "told(9) = 0\n",
             "lose(0, 1|2|3|4); told(9) = 4; lose(1|2|3|4, 5|6|7|8); told(9) = 20; told(8) = 20; mode(1); told(9) = 8; told(8) = 8");
         test("9 how many of these do not come", "node(1, 0); node(3, 0); lose(1, 2); told(2) = 1; told(9) = 0 # no letter goes there");
     }
@@ -122,9 +111,9 @@ public final class BoundsPromisesTest {
     // ---- promise 3
 
     private static void at() {
-        test("what = 0 RING (NONE)", CHAIN, "at(0, 0) = 0; at(8, 0) = 8; link(7, 8); at(8, 0) = NONE; at(7, 0) = 7");
-        test("1 NODES LINKED with it", "at(0, 1) = 0\n", ALL_LINKED, "at(0, 1) = 510; at(4, 1) = 495; at(8, 1) = 255; lose(0, 8); at(0, 1) = 510");
-        test("2 its UPPER ones (SETS)", MOST_LETTERS, "at(0, 2) = 0; at(1|4, 2) = 1; at(5|8, 2) = 30; mode(1); at(5|8, 2) = 30");
+        test("what = 0 RING (NONE)", Nets.CHAIN, "at(0, 0) = 0; at(8, 0) = 8; link(7, 8); at(8, 0) = NONE; at(7, 0) = 7");
+        test("1 NODES LINKED with it", "at(0, 1) = 0\n", Nets.ALL_LINKED, "at(0, 1) = 510; at(4, 1) = 495; at(8, 1) = 255; lose(0, 8); at(0, 1) = 510");
+        test("2 its UPPER ones (SETS)", Nets.MOST_LETTERS, "at(0, 2) = 0; at(1|4, 2) = 1; at(5|8, 2) = 30; mode(1); at(5|8, 2) = 30");
         test("2 its UPPER ones (SETS)", "node(0, 0); node(2, 0); at(1|2, 2) = 0");
         test("3 the SET that it HEARS", "at(0, 3) = 0; hear(0, 65535); at(0, 3) = 65535; node(0, 65535); at(1, 3) = 65535; hear(1, 0); at(1, 3) = 0");
         test("4 WAYS", "at(0, 4) = 1; node(0, 0); at(1, 4) = 0; link(0, 1); at(1, 4) = 1; lose(0, 1); at(1, 4) = 0");
@@ -135,7 +124,7 @@ public final class BoundsPromisesTest {
             at(0, 5) = 0; 8 * node(1, 0); at(0, 5) = 8; at(1, 5) = 0; lose(0, 8); at(0, 5) = 7; lose(0, 1|2|3|4|5|6|7); at(0, 5) = 0
             """);
         test("5 LETTERS that come to it (0: it has no RING)", "node(0, 1); node(2, 1); at(1|2, 5) = 0");
-        test("5 LETTERS that come to it (0: it has no RING). UNKNOWN, OUTSIDE.", LATTICE, """
+        test("5 LETTERS that come to it (0: it has no RING). UNKNOWN, OUTSIDE.", Nets.LATTICE, """
             at(-1|6|8|9|31|32|LOW|HIGH, 0) = UNKNOWN; at(6, 0|1|2|3|4|5) = UNKNOWN
             at(0, -1|6|LOW|HIGH) = OUTSIDE; at(5, -1|6|LOW|HIGH) = OUTSIDE; at(6, -1|6|LOW|HIGH) = UNKNOWN
             node(0, 0); at(6, 0) = NONE; at(6, -1|6) = OUTSIDE; at(7, 0) = UNKNOWN; take(); at(6, 0) = UNKNOWN
@@ -145,9 +134,9 @@ public final class BoundsPromisesTest {
     // ---- promise 4
 
     private static void isLost() {
-        test("`int isLost(int u, int v)`: 1 the LINK of two NODES is LOST, 0 not.", ALL_LINKED, eachTwo("isLost", true, " = 0"),
+        test("`int isLost(int u, int v)`: 1 the LINK of two NODES is LOST, 0 not.", Nets.ALL_LINKED, eachTwo("isLost", true, " = 0"),
             eachTwo("lose", true, ""), eachTwo("isLost", true, " = 1"), eachTwo("isLost", false, " = 1"));
-        test("`int isLost(int u, int v)`: 1 the LINK of two NODES is LOST, 0 not. UNKNOWN.", LATTICE, """
+        test("`int isLost(int u, int v)`: 1 the LINK of two NODES is LOST, 0 not. UNKNOWN.", Nets.LATTICE, """
             isLost(0, -1|6|9|31|32|33|LOW|HIGH) = UNKNOWN; isLost(-1|6|9|31|32|33|LOW|HIGH, 0) = UNKNOWN
             isLost(0, 0|3|4|5) = UNKNOWN; isLost(1, 1|2|5) = UNKNOWN; isLost(6, 6) = UNKNOWN
             isLost(0, 1|2) = 0; link(0, 1); isLost(0, 1) = UNKNOWN; isLost(1, 0) = UNKNOWN
@@ -184,9 +173,9 @@ public final class BoundsPromisesTest {
             holds(0, 0|1|3) = 0; hear(0, 65535); holds(0, 0) = 16; holds(0, 1) = 15; holds(0, 3) = 65535
             salt(842); holds(0, 1) = 128
             """);
-        test("`long holds(int v, int kind)`: What a NODE HOLDS by a KIND: 0, 1, 3 as told", MOST_LETTERS,
+        test("`long holds(int v, int kind)`: What a NODE HOLDS by a KIND: 0, 1, 3 as told", Nets.MOST_LETTERS,
             "holds(0, 0) = 20; holds(1, 0) = 5; holds(8, 0) = 1; hear(0, 65535); holds(0, 0) = 36; holds(0, 3) = 65535");
-        test("`long holds(int v, int kind)`: What a NODE HOLDS by a KIND: 0, 1, 3 as told", MOST_LETTERS, """
+        test("`long holds(int v, int kind)`: What a NODE HOLDS by a KIND: 0, 1, 3 as told", Nets.MOST_LETTERS, """
             # fewer letters than when last asked: none of those comes any more
             hear(8, 2); holds(0, 0) = 20; holds(2, 3) = 3; mode(1); holds(0, 0) = 8; holds(1, 0) = 5; holds(2, 0) = 1
             holds(2, 3) = 1; holds(4, 0) = 1; take(); holds(1, 0) = 4; holds(0, 0) = 7; link(0, 1); holds(1, 0) = 1
@@ -230,7 +219,7 @@ public final class BoundsPromisesTest {
     // ---- promises 9, 10
 
     private static void letter() {
-        test("`int letter(int k, int what)`: Of a LETTER: what = 0 from which NODE, 1 to which, 2 1 it comes, 0 not.", MOST_LETTERS, """
+        test("`int letter(int k, int what)`: Of a LETTER: what = 0 from which NODE, 1 to which, 2 1 it comes, 0 not.", Nets.MOST_LETTERS, """
             letter(0, 0) = 5; letter(0, 1) = 1; letter(0, 2) = 1; letter(19, 0) = 4; letter(19, 1) = 0; letter(19, 2) = 1
             lose(1, 5); lose(0, 4); letter(0, 2) = 0; letter(1, 2) = 1; letter(18, 2) = 1; letter(19, 2) = 0
             """);
@@ -239,11 +228,11 @@ public final class BoundsPromisesTest {
             letter(-1|1|LOW|HIGH, 0|2) = UNKNOWN; letter(1, -1|3) = UNKNOWN; letter(0, -1|3|LOW|HIGH) = OUTSIDE
             """);
         test("`int letter(int k, int what)`: Of a LETTER: what = 0 from which NODE, 1 to which, 2 1 it comes, 0 not. UNKNOWN, OUTSIDE.",
-            MOST_LETTERS, "letter(20|21|36|37, 0) = UNKNOWN; letter(19, 3) = OUTSIDE; mode(1); letter(7, 0) = 4; letter(8, 0) = UNKNOWN");
+            Nets.MOST_LETTERS, "letter(20|21|36|37, 0) = UNKNOWN; letter(19, 3) = OUTSIDE; mode(1); letter(7, 0) = 4; letter(8, 0) = UNKNOWN");
     }
 
     private static void sent() {
-        test("`long sent(int k, int kind)`: What is sent by a KIND in a LETTER, as holds().", MOST_LETTERS, """
+        test("`long sent(int k, int kind)`: What is sent by a KIND in a LETTER, as holds().", Nets.MOST_LETTERS, """
             hear(8, 65535); sent(15, 0) = 16; sent(15, 1) = 15; sent(15, 2) = 736184035; sent(15, 3) = 65535
             hear(8, 0); sent(15, 0|1|3) = 0; sent(15, 2) = 4098049024
             sent(19, 0) = 4; sent(19, 3) = 1; lose(0, 4); sent(19, 0) = 4 # lost, it is sent all the same
@@ -253,7 +242,7 @@ public final class BoundsPromisesTest {
             sent(0, 0|3|4) = UNKNOWN; node(0, 5); sent(0, 3) = UNKNOWN; link(0, 1); sent(0, 3) = 5
             sent(-1|1|LOW|HIGH, 0|3) = UNKNOWN; sent(1, -1|4) = UNKNOWN; sent(0, -1|4|LOW|HIGH) = OUTSIDE
             """);
-        test("`long sent(int k, int kind)`: What is sent by a KIND in a LETTER, as holds(). UNKNOWN, OUTSIDE.", MOST_LETTERS,
+        test("`long sent(int k, int kind)`: What is sent by a KIND in a LETTER, as holds(). UNKNOWN, OUTSIDE.", Nets.MOST_LETTERS,
             "sent(19, 0) = 5; sent(20|36, 0) = UNKNOWN; sent(19, 4) = OUTSIDE; mode(1); sent(7, 0) = 1; sent(8, 0) = UNKNOWN");
     }
 
@@ -274,7 +263,7 @@ public final class BoundsPromisesTest {
             rows(8, 0) = 281474976710656; rows(9, 9) = OUTSIDE; rows(2, 2) = 4096; rows(3, 0) = 262144
             """);
         test("`long rows(int n, int z)`: ON THE WHOLE, of n ITEMS: how many rows have Z z.",
-            ALL_LINKED, "salt(5); rows(1, 0) = 64; mode(1); rows(8, 8) = 84557168640; rows(1, 0) = 64 # whatever is so");
+            Nets.ALL_LINKED, "salt(5); rows(1, 0) = 64; mode(1); rows(8, 8) = 84557168640; rows(1, 0) = 64 # whatever is so");
     }
 
     // ---- promise 12
@@ -302,7 +291,7 @@ public final class BoundsPromisesTest {
     // ---- promise 13
 
     private static void take() {
-        test("`int take()`: The latest NODE goes, with its LINKS: how many are left.", ALL_LINKED, "lose(8, 0|7)\n", """
+        test("`int take()`: The latest NODE goes, with its LINKS: how many are left.", Nets.ALL_LINKED, "lose(8, 0|7)\n", """
             take() = 8; told(1) = 28; told(2) = 0; at(0, 1) = 254; at(7, 1) = 127; at(8, 0) = UNKNOWN; isLost(0, 8) = UNKNOWN
             take() = 7; take() = 6; take() = 5; take() = 4; take() = 3; take() = 2; told(1) = 1
             take() = 1; told(1) = 0; at(0, 1) = 0
@@ -330,7 +319,7 @@ public final class BoundsPromisesTest {
             link(1, 2) = 1; lose(1, 2); link(1, 4) = 1; link(1, 4) = 0; isLost(1, 0|2) = 1; isLost(0|2, 1) = 1; isLost(4, 0) = 1
             link(4, 1) = 1; link(4, 1) = 0; isLost(1, 0|2) = 1; isLost(0|2, 1) = 1; isLost(4, 0) = 1; isLost(0, 4) = 1
             """);
-        test("or, if they were, no more: 1, 0. UNKNOWN (one twice).", LATTICE, """
+        test("or, if they were, no more: 1, 0. UNKNOWN (one twice).", Nets.LATTICE, """
             link(0, 0) = UNKNOWN; link(5, 5) = UNKNOWN; link(6, 6) = UNKNOWN
             link(0, -1|6|8|32|LOW|HIGH) = UNKNOWN; link(-1|6|8|32|LOW|HIGH, 0) = UNKNOWN; link(5, 6) = UNKNOWN
             link(5, 0) = 1; told(1) = 9
@@ -342,7 +331,7 @@ public final class BoundsPromisesTest {
             8 * node(1, 0); lose(0, 8) = 1; isLost(8, 0) = 1; told(2) = 1; lose(8, 0) = 0; isLost(0, 8) = 0; told(2) = 0
             lose(8, 0) = 1; isLost(0, 7) = 0
             """);
-        test("`int lose(int u, int v)`: A LINK is LOST, or, if it was, no more: 1, 0. UNKNOWN.", LATTICE, """
+        test("`int lose(int u, int v)`: A LINK is LOST, or, if it was, no more: 1, 0. UNKNOWN.", Nets.LATTICE, """
             lose(0, 0) = UNKNOWN; lose(0, 3|4|5) = UNKNOWN; lose(3, 0) = UNKNOWN; lose(6, 6) = UNKNOWN
             lose(0, -1|6|8|32|33|LOW|HIGH) = UNKNOWN; lose(-1|6|8|32|33|LOW|HIGH, 0) = UNKNOWN
             link(0, 1) = 0; lose(0, 1) = UNKNOWN; lose(1, 0) = UNKNOWN; told(2) = 0
@@ -471,7 +460,7 @@ public final class BoundsPromisesTest {
             keep(0); goBack(1) = NOT; goBack(0) = 1; salt(4); salt(5); goBack(2) = UNKNOWN; goBack(1) = NOT; told(12) = 2
             goBack(0) = 1; told(12) = 0; undo(1) = NOT; told(3) = 3; goBack(0) = 1
             """);
-        test("`int goBack(int i)`: What is so becomes IMAGE i (nothing can be undone then): 1.", "keep(0)\n", ALL_LINKED, """
+        test("`int goBack(int i)`: What is so becomes IMAGE i (nothing can be undone then): 1.", "keep(0)\n", Nets.ALL_LINKED, """
             lose(0, 8); keep(1); 8 * take(); goBack(1) = 1; told(0) = 9; told(1) = 36; told(2) = 1; goBack(0) = 1; told(0) = 1
             told(1) = 0; told(2) = 0; node(0, 0); goBack(1) = 1; told(0) = 9; node(0, 0) = FULL
             """);

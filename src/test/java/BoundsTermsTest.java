@@ -5,14 +5,6 @@ public final class BoundsTermsTest {
     private static final Rows ROWS = new Rows("bounds of the terms");
     private static final Due DUE = new Due("marks by every salt");
 
-    /** 1, 2 in ring 1; 3, 4 in ring 2, each linked with both; 5 in ring 3, linked with both of these. */
-    private static final String LATTICE = "node(1, 1); node(1, 2); node(6, 4); node(6, 8); node(24, 16)\n";
-    /** Node v is linked with v less 1 alone, and hears item v less 1. */
-    private static final String CHAIN =
-        "node(1, 1); node(2, 2); node(4, 4); node(8, 8); node(16, 16); node(32, 32); node(64, 64); node(128, 128)\n";
-    /** Four in ring 1, four in ring 2, each linked with all four: as many letters as nine nodes can send. */
-    private static final String MOST_LETTERS = "4 * node(1, 1); 4 * node(30, 1)\n";
-
     public static void main(String[] args) {
         calls();
         wholeNumbers();
@@ -106,7 +98,7 @@ public final class BoundsTermsTest {
             hear(0, 2); guess(0, 1) = 2 # 2000 / 773 is 2 and 454 of 773
             hear(0, 22); guess(0, 2) = 2 # 2048 / 875 is 2 and 298 of 875
             """);
-        test("What has a number has it from 0 on.", LATTICE, """
+        test("What has a number has it from 0 on.", Nets.LATTICE, """
             at(0, 0) = 0; at(-1, 0) = UNKNOWN
             letter(0, 0) = 5; letter(-1, 0) = UNKNOWN
             sent(0, 3) = 16; sent(-1, 3) = UNKNOWN
@@ -124,12 +116,12 @@ public final class BoundsTermsTest {
     }
 
     private static void refusals() {
-        test("UNKNOWN (a NODE, LETTER, IMAGE that there is not;", LATTICE, """
+        test("UNKNOWN (a NODE, LETTER, IMAGE that there is not;", Nets.LATTICE, """
             at(-1|6|9|LOW|HIGH, 0) = UNKNOWN
             letter(-1|8|36|LOW|HIGH, 0) = UNKNOWN
             keep(-1|2|LOW|HIGH) = UNKNOWN
             """);
-        test("NODES that are not LINKED, one twice, where these are asked", LATTICE, """
+        test("NODES that are not LINKED, one twice, where these are asked", Nets.LATTICE, """
             isLost(0, 3) = UNKNOWN; isLost(3, 0) = UNKNOWN; isLost(1, 2) = UNKNOWN
             lose(0, 3) = UNKNOWN; lose(3, 0) = UNKNOWN; lose(1, 2) = UNKNOWN
             isLost(0, 0) = UNKNOWN; isLost(5, 5) = UNKNOWN
@@ -145,7 +137,7 @@ public final class BoundsTermsTest {
             told(14) = -1000000002; at(8, 0) = -1000000001; undo(8) = -1000000003
             node(0, 0) = 8; node(0, 0) = -1000000004
             """);
-        test("What is refused changes nothing.", LATTICE, """
+        test("What is refused changes nothing.", Nets.LATTICE, """
             keep(0); seed(5); write(0, 1); drift(2)
             node(64, 0) = UNKNOWN; node(1, 65536) = OUTSIDE; undo(3) = NOT; goBack(1) = NOT; write(6, 1) = UNKNOWN
             undo(2) = 0; told(10) = 1
@@ -155,16 +147,16 @@ public final class BoundsTermsTest {
     /** Each two refusals that one call can meet at once, and all three of node(). */
     private static void order() {
         String[] runs = {
-            LATTICE + "at(6, 6) = UNKNOWN; at(-1, -1) = UNKNOWN; at(0, 6) = OUTSIDE",
-            LATTICE + "holds(6, 4) = UNKNOWN; holds(-1, -1) = UNKNOWN; holds(0, 4) = OUTSIDE",
-            LATTICE + "guess(6, 3) = UNKNOWN; guess(-1, 0) = UNKNOWN; guess(0, 3) = OUTSIDE",
-            LATTICE + "letter(8, 3) = UNKNOWN; letter(-1, -1) = UNKNOWN; letter(0, 3) = OUTSIDE",
-            LATTICE + "sent(8, 4) = UNKNOWN; sent(-1, -1) = UNKNOWN; sent(0, 4) = OUTSIDE",
-            LATTICE + "hear(6, 65536) = UNKNOWN; hear(-1, -1) = UNKNOWN; hear(0, 65536) = OUTSIDE",
-            LATTICE + "node(64, 65536) = UNKNOWN; node(-1, -1) = UNKNOWN; node(1, 65536) = OUTSIDE",
-            MOST_LETTERS + "node(512, 65536) = UNKNOWN; node(511, 65536) = OUTSIDE; node(511, 65535) = FULL",
-            MOST_LETTERS + "node(512, 0) = UNKNOWN; node(-1, 0) = UNKNOWN; node(0, -1) = OUTSIDE; node(0, 0) = FULL",
-            LATTICE + "20 * write(0, 20); write(6, 20) = UNKNOWN; write(-1, 20) = UNKNOWN; write(0, 20) = FULL",
+            Nets.LATTICE + "at(6, 6) = UNKNOWN; at(-1, -1) = UNKNOWN; at(0, 6) = OUTSIDE",
+            Nets.LATTICE + "holds(6, 4) = UNKNOWN; holds(-1, -1) = UNKNOWN; holds(0, 4) = OUTSIDE",
+            Nets.LATTICE + "guess(6, 3) = UNKNOWN; guess(-1, 0) = UNKNOWN; guess(0, 3) = OUTSIDE",
+            Nets.LATTICE + "letter(8, 3) = UNKNOWN; letter(-1, -1) = UNKNOWN; letter(0, 3) = OUTSIDE",
+            Nets.LATTICE + "sent(8, 4) = UNKNOWN; sent(-1, -1) = UNKNOWN; sent(0, 4) = OUTSIDE",
+            Nets.LATTICE + "hear(6, 65536) = UNKNOWN; hear(-1, -1) = UNKNOWN; hear(0, 65536) = OUTSIDE",
+            Nets.LATTICE + "node(64, 65536) = UNKNOWN; node(-1, -1) = UNKNOWN; node(1, 65536) = OUTSIDE",
+            Nets.MOST_LETTERS + "node(512, 65536) = UNKNOWN; node(511, 65536) = OUTSIDE; node(511, 65535) = FULL",
+            Nets.MOST_LETTERS + "node(512, 0) = UNKNOWN; node(-1, 0) = UNKNOWN; node(0, -1) = OUTSIDE; node(0, 0) = FULL",
+            Nets.LATTICE + "20 * write(0, 20); write(6, 20) = UNKNOWN; write(-1, 20) = UNKNOWN; write(0, 20) = FULL",
             "undo(0) = OUTSIDE; undo(17) = OUTSIDE; undo(16) = NOT; undo(1) = NOT",
             "goBack(2) = UNKNOWN; goBack(-1) = UNKNOWN; goBack(0) = NOT; goBack(1) = NOT"};
         for (String run : runs) {
@@ -184,7 +176,7 @@ public final class BoundsTermsTest {
             take() = 8; node(1, 0) = 8; node(1, 0) = FULL
             8 * take(); told(0) = 1; take() = NOT; told(0) = 1; at(0, 0) = 0
             """);
-        test("NODE 0 is the MIDDLE.", LATTICE, "at(0, 0) = 0; at(0, 4) = 1; 5 * take(); take() = NOT; at(0, 0) = 0");
+        test("NODE 0 is the MIDDLE.", Nets.LATTICE, "at(0, 0) = 0; at(0, 4) = 1; 5 * take(); take() = NOT; at(0, 0) = 0");
         test("Two NODES may be LINKED, a LINK LOST or not.", """
             node(0, 0); told(1) = 0; lose(0, 1) = UNKNOWN; told(2) = 0
             link(0, 1) = 1; told(1) = 1; told(2) = 0; isLost(0, 1) = 0
@@ -270,7 +262,7 @@ public final class BoundsTermsTest {
     }
 
     private static void rings() {
-        test("RING of a NODE: the fewest LINKS (LOST ones, too) from it to the MIDDLE", CHAIN, """
+        test("RING of a NODE: the fewest LINKS (LOST ones, too) from it to the MIDDLE", Nets.CHAIN, """
             at(0, 0) = 0; at(1, 0) = 1; at(2, 0) = 2; at(7, 0) = 7; at(8, 0) = 8; told(5) = 8
             lose(0, 1); lose(7, 8); at(1, 0) = 1; at(8, 0) = 8; told(5) = 8
             link(8, 0) = 1; at(8, 0) = 1; at(4, 0) = 4; at(5, 0) = 4; at(7, 0) = 2; told(5) = 4
@@ -388,7 +380,7 @@ public final class BoundsTermsTest {
             told(8) = 8; letter(0, 0) = 1; letter(0, 1) = 2; letter(6, 0) = 7; letter(7, 0) = 8; letter(7, 1) = 0
             letter(8, 0) = UNKNOWN
             """);
-        test("it sends this to its UPPER ones (by MODE), the least number first", MOST_LETTERS, """
+        test("it sends this to its UPPER ones (by MODE), the least number first", Nets.MOST_LETTERS, """
             told(8) = 20
             letter(0|1|2|3, 0) = 5; letter(0, 1) = 1; letter(1, 1) = 2; letter(2, 1) = 3; letter(3, 1) = 4
             letter(12|13|14|15, 0) = 8; letter(12, 1) = 1; letter(15, 1) = 4
@@ -408,7 +400,7 @@ public final class BoundsTermsTest {
             lose(1, 2); told(9) = 1; letter(0, 2) = 1; holds(1, 3) = 15; sent(1, 3) = 15; holds(0, 3) = 0
             lose(0, 1); told(9) = 0; holds(0, 3) = 15; at(0, 5) = 1
             """);
-        test("The MIDDLE HOLDS likewise, at last.", CHAIN, """
+        test("The MIDDLE HOLDS likewise, at last.", Nets.CHAIN, """
             hear(0, 256); holds(8, 3) = 128; holds(1, 3) = 255; holds(0, 3) = 511; holds(0, 0) = 9
             8 * take(); holds(0, 3) = 256; holds(0, 0) = 1
             """);
@@ -458,14 +450,14 @@ public final class BoundsTermsTest {
     }
 
     private static void ways() {
-        test("WAYS of a NODE: in how many ways what it sends comes to the MIDDLE", LATTICE, """
+        test("WAYS of a NODE: in how many ways what it sends comes to the MIDDLE", Nets.LATTICE, """
             at(5, 4) = 4; lose(5, 3); at(5, 4) = 2; lose(4, 1); at(5, 4) = 1; lose(4, 2); at(5, 4) = 0; at(3, 4) = 2
             node(0, 0); at(6, 4) = 0
             """);
         test("(that do not get lost; 1 for the MIDDLE itself)", """
             at(0, 4) = 1; node(1, 0); lose(0, 1); at(0, 4) = 1; at(1, 4) = 0; lose(0, 1); at(1, 4) = 1
             """);
-        test("COMES: the SET of NODES with WAYS of 1 at least.", CHAIN, """
+        test("COMES: the SET of NODES with WAYS of 1 at least.", Nets.CHAIN, """
             told(6) = 511; lose(7, 8); told(6) = 255; lose(0, 1); told(6) = 1; lose(0, 1); told(6) = 255
             link(0, 8); told(6) = 287; lose(0, 8); lose(3, 4); told(6) = 15
             """);

@@ -2,8 +2,12 @@ import java.lang.reflect.Constructor;
 import java.lang.reflect.Field;
 import java.lang.reflect.Method;
 import java.lang.reflect.Modifier;
+import java.nio.file.Files;
+import java.nio.file.Path;
 import java.util.Set;
 import java.util.TreeSet;
+import java.util.regex.Matcher;
+import java.util.regex.Pattern;
 
 /** The face is the document's, and nothing else can be seen from outside. */
 public final class FaceTest {
@@ -14,7 +18,7 @@ public final class FaceTest {
         "int salt(int)", "int mode(int)", "int drift(int)", "int undo(int)", "int write(int,int)", "int tear()",
         "int seed(int)", "int keep(int)", "int goBack(int)"};
 
-    public static void main(String[] args) {
+    public static void main(String[] args) throws Exception {
         Due due = new Due("the face");
         Class<?> c = TwiceHeard.class;
         due.holds("public final class", Modifier.isPublic(c.getModifiers()) && Modifier.isFinal(c.getModifiers()));
@@ -27,7 +31,45 @@ public final class FaceTest {
             due.holds(inside + " is static", Modifier.isStatic(inside.getModifiers()));
             due.holds(inside + " isn't public", !Modifier.isPublic(inside.getModifiers()));
         }
+        String document = Rows.readDocument();
+        if (document != null) {
+            String source = Files.readString(Path.of("src/main/java/TwiceHeard.java"));
+            asWritten(due, document, source);
+            groups(due, document, source);
+        }
         due.end();
+    }
+
+    /** Each row of the document's face stands in the source, in the same order, parameters' names too. */
+    private static void asWritten(Due due, String document, String source) {
+        Matcher face = Pattern.compile("```java public final class TwiceHeard \\{ (.*?) \\} ```").matcher(document);
+        due.holds("the document has a face", face.find());
+        int behind = -1;
+        int rows = 0;
+        for (String row : face.group(1).split("; ?")) {
+            int at = source.indexOf("\n    " + row + (row.endsWith(")") ? " {\n" : ";\n"));
+            due.holds(row + " stands as in the document, in its order", at > behind);
+            behind = at;
+            rows++;
+        }
+        due.is("constants' row, constructor, methods", rows, 2 + METHODS.length);
+    }
+
+    /** The document says which line stands ahead of which calls. */
+    private static void groups(Due due, String document, String source) {
+        Matcher m = Pattern.compile("Ahead of the calls ([^.]*) the interface says: (---- [a-z ]+)\\.").matcher(document);
+        int groups = 0;
+        while (m.find()) {
+            groups++;
+            int line = source.indexOf("\n    // " + m.group(2) + "\n");
+            int next = source.indexOf("\n    // ----", line + 1);
+            due.holds(m.group(2) + " stands in the source", line >= 0 && next > line);
+            for (String name : m.group(1).split(", ")) {
+                int call = source.indexOf(" " + name.replace("`", "") + "(", line);
+                due.holds(name + " stands below " + m.group(2), call > line && call < next);
+            }
+        }
+        due.is("groups of calls", groups, 4);
     }
 
     private static void methods(Due due, Class<?> c) {

@@ -7,9 +7,8 @@ public final class RefusalsTest {
     private static final Rows ROWS = new Rows("refusals");
     private static final Due DUE = new Due("questions");
 
-    private static final String LATTICE = "node(1, 1); node(1, 2); node(6, 4); node(6, 8); node(24, 16)\n";
     /** Two nodes without a way to the middle; one image; deeds to undo; a book whose last entry is wrong. */
-    private static final String MIDST = LATTICE + """
+    private static final String MIDST = Nets.LATTICE + """
         node(0, 255); node(64, 1); lose(0, 1); lose(3, 5); seed(77); write(0, 10); write(5, 2); write(6, 3)
         keep(1); salt(9); mode(1); drift(3); hear(2, 99); lose(0, 2)
         """;

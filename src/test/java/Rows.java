@@ -3,6 +3,8 @@ import java.nio.file.Files;
 import java.nio.file.Path;
 import java.util.ArrayList;
 import java.util.List;
+import java.util.Set;
+import java.util.TreeSet;
 
 /**
  * Tests as rows of calls. A test bears the words of the document that it stands for and is a run on a new object, a row
@@ -13,6 +15,10 @@ import java.util.List;
 final class Rows {
     private static final int MOST_CALLS = 512;
     private static final Path DOCUMENT = Path.of("../shared/DOC.md");
+    /** The words of all tests of this run of the machine. */
+    static final Set<String> QUOTED = new TreeSet<>();
+    /** Set by DocumentTest, which asks for the tests' words alone. */
+    static boolean wordsAlone = false;
 
     private final String about;
     private final String document;
@@ -34,7 +40,7 @@ final class Rows {
     }
 
     /** Without the document at hand the words can't be compared; the rows hold all the same. */
-    private static String readDocument() {
+    static String readDocument() {
         try {
             return Files.isReadable(DOCUMENT) ? flat(Files.readString(DOCUMENT)) : null;
         } catch (IOException e) {
@@ -57,12 +63,19 @@ final class Rows {
         if (document != null && !document.contains(flat(itsWords))) {
             tell("these words are not in the document");
         }
+        QUOTED.add(flat(itsWords));
+        if (!wordsAlone) {
+            make(rows);
+        }
+        failed += wrong == 0 ? 0 : 1;
+    }
+
+    private void make(String... rows) {
         for (String part : rows) {
             for (String line : part.split("\n")) {
                 line(line.split("#", 2)[0]);
             }
         }
-        failed += wrong == 0 ? 0 : 1;
     }
 
     private void line(String line) {
